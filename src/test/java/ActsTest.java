@@ -197,26 +197,30 @@ public final class ActsTest {
     }
 
     private static void acts() {
-        BellTrees x = new BellTrees();
-        int[] kinds = new int[50];
-        for (int n = 0; n < 50; n++) {
-            kinds[n] = n < 8 ? n : random.nextInt(8);
-            x.body(kinds[n]);
-        }
-        for (int turn = 0; turn < 400; turn++) {
-            int n = turn < 32 ? turn / 4 : random.nextInt(50);
-            int act = turn % 4;
-            int with = turn % 3 == 0 ? random.nextInt() : random.nextInt(20) - 10;
-            with = turn % 50 == 0 ? Integer.MAX_VALUE : turn % 50 == 1 ? Integer.MIN_VALUE : with;
-            ran.clear();
-            int due = acted(made(kinds[n], n), act, with);
-            check.due("act " + act + " of kind " + kinds[n], x.act(n, act, with), due);
-            check.due("bodies that ran", x.count(5), ran.size());
-            if (turn < 32) {
-                for (int i = 0; i < 24; i++) {
-                    check.due("trace " + i, x.trace(i), i < ran.size() ? ran.get(i) : -1);
-                }
+        for (int round = 0; round < 60; round++) {
+            BellTrees x = new BellTrees();
+            int[] kinds = new int[50];
+            for (int n = 0; n < 50; n++) {
+                kinds[n] = n < 8 ? n : random.nextInt(8);
+                x.body(kinds[n]);
             }
+            for (int turn = 0; turn < 16; turn++) {
+                int n = round < 4 ? turn / 2 : random.nextInt(50);
+                int act = round < 4 ? turn % 2 * 2 + round % 2 : random.nextInt(4);
+                int with = turn % 3 == 0 ? random.nextInt() : random.nextInt(20) - 10;
+                with = round % 10 == 5 ? Integer.MAX_VALUE : round % 10 == 6 ? Integer.MIN_VALUE : with;
+                acted(x, n, kinds[n], act, with);
+            }
+        }
+    }
+
+    private static void acted(BellTrees x, int n, int kind, int act, int with) {
+        ran.clear();
+        int due = acted(made(kind, n), act, with);
+        check.due("act " + act + " of kind " + kind, x.act(n, act, with), due);
+        check.due("bodies that ran", x.count(5), ran.size());
+        for (int i = 0; i < 24; i++) {
+            check.due("trace " + i, x.trace(i), i < ran.size() ? ran.get(i) : -1);
         }
     }
 

@@ -57,6 +57,7 @@ public final class LawTest {
             1, 1, 1};
         check.due("as many texts", texts.length, due.length);
         for (int i = 0; i < texts.length; i++) {
+            x = i % 10 == 0 ? new BellTrees() : x;
             check.due("law of " + texts[i], Check.law(x, texts[i]), due[i]);
             check.due("tape behind " + texts[i], x.count(2), 0);
         }
@@ -119,9 +120,6 @@ public final class LawTest {
     }
 
     private static void values() {
-        BellTrees x = forest();
-        x.mend(0, 6, 8);
-        x.mend(5, 4, 6);
         String[] right = {"l=4", "d=0", "w=6", "p=3", "s=8", "k=2", "7/2=3", "(-7)/2=-3", "7%4=3", "(-7)%4=-3", "7%(-4)=3", "5/0=0",
             "5%0=0", "2+3*4=14", "(2+3)*4=20", "9-3-2=4", "80/4/2=10", "17%10%4=3", "2*3%4=2", "(1<2)=1", "(2<1)=0", "(2>1)=1",
             "(1>1)=0", "(1<1)=0", "(3=3)=1", "(5|0)=1", "(0|0)=0", "(5&6)=1", "(5&0)=0", "!5=0", "!0=1", "!!7=1", "-5=0-5",
@@ -129,12 +127,15 @@ public final class LawTest {
             "0010=10", "9999*9999=9998*9999+9999", "9999*9999*9999*9999=((-9999*9999)*-9999)*9999", "9999*9999*22<0", "1-2", "(1-2)=-1",
             "-9999/3=-3333"};
         for (String text : right) {
+            BellTrees x = forest();
+            x.mend(0, 6, 8);
+            x.mend(5, 4, 6);
             check.due(text, Check.law(x, text), 1);
             check.due("sound by " + text, x.sound(2, 0, 5), 3);
             check.due("not " + text, Check.law(x, "(" + text + ")?0;1"), 1);
             check.due("sound by not " + text, x.sound(2, 0, 5), -1);
         }
-        x = forest();
+        BellTrees x = forest();
         String lowest = "(-9999*9999*21-9999*4789-(9999*6-6617))";
         long value = -9999L * 9999 * 21 - 9999L * 4789 - (9999 * 6 - 6617);
         check.due("wraps", Check.law(x, lowest + "=" + lowest + "*3"), 1);

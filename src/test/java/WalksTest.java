@@ -327,6 +327,13 @@ public final class WalksTest {
 
     // ---- by chance, against all walks tried one by one
 
+    /** A call by another SORT comes between, so that no answer can lean on what an earlier call worked out. */
+    private static BellTrees disturbed(BellTrees x, int sort) {
+        x.apart(10 * ((sort + 1) % 4) + (sort + 2) % 4, 0);
+        x.fits(5, 100 * ((sort + 1) % 4) + 99);
+        return x;
+    }
+
     private static int[][] sounds(BellTrees x, int sort, int trees) {
         int[][] sounds = new int[trees][24];
         for (int t = 0; t < trees; t++) {
@@ -383,7 +390,9 @@ public final class WalksTest {
         }
         int sort = random.nextInt(4);
         int other = random.nextInt(4);
-        x.mend(other, 5, random.nextInt(10));
+        for (int of = 0; of < 4; of++) {
+            x.mend(of, 5, of == sort ? 5 : random.nextInt(10));
+        }
         int[][] sounds = sounds(x, sort, trees);
         int[][] others = sounds(x, other, trees);
         int length = random.nextInt(5) + 1;
@@ -437,10 +446,10 @@ public final class WalksTest {
                 }
             }
         }
-        check.due("fits", x.fits(5, 100 * sort + 99), many);
+        check.due("fits", disturbed(x, sort).fits(5, 100 * sort + 99), many);
         for (int m = 0; m < book.length; m++) {
-            check.due("fits at " + m, x.fits(5, 100 * sort + m), first == null ? -2 : first[m]);
-            check.due("canBe at " + m, x.canBe(5, 100 * sort + m), first == null ? -2 : bits[m]);
+            check.due("fits at " + m, disturbed(x, sort).fits(5, 100 * sort + m), first == null ? -2 : first[m]);
+            check.due("canBe at " + m, disturbed(x, sort).canBe(5, 100 * sort + m), first == null ? -2 : bits[m]);
         }
     }
 
@@ -459,8 +468,8 @@ public final class WalksTest {
                 first = m;
             }
         }
-        check.due("twoAtOnce", x.twoAtOnce(5, kk, 0), many);
-        check.due("twoAtOnce, the first", x.twoAtOnce(5, kk, 1), first);
+        check.due("twoAtOnce", disturbed(x, kk / 10).twoAtOnce(5, kk, 0), many);
+        check.due("twoAtOnce, the first", disturbed(x, kk / 10).twoAtOnce(5, kk, 1), first);
     }
 
     private static void least(BellTrees x, int sort, boolean[][] near, int[][] sounds) {
@@ -483,9 +492,9 @@ public final class WalksTest {
             }
         }
         int sft = 100 * sort + 10 * from + to;
-        check.due("least", x.least(sft, 100 * a + b, -1), best == null ? -2 : fewest);
+        check.due("least", disturbed(x, sort).least(sft, 100 * a + b, -1), best == null ? -2 : fewest);
         for (int m = a; m <= b; m++) {
-            check.due("least at " + m, x.least(sft, 100 * a + b, m), best == null ? -2 : best[m - a]);
+            check.due("least at " + m, disturbed(x, sort).least(sft, 100 * a + b, m), best == null ? -2 : best[m - a]);
         }
     }
 
@@ -498,7 +507,7 @@ public final class WalksTest {
         for (int m = Math.min(walk.length, book.length) - 1; m >= 0; m--) {
             due = sounds[walk[m]][m] != book[m] ? m : due;
         }
-        check.due("judge", x.judge(sort, 5), due);
+        check.due("judge", disturbed(x, sort).judge(sort, 5), due);
     }
 
     private static void gone(BellTrees x, int sort, int[] walk, int[] book, int[][] sounds, boolean[] there) {
@@ -513,7 +522,7 @@ public final class WalksTest {
             }
             best = so ? bits : best;
         }
-        check.due("gone", x.gone(sort, 5), best);
+        check.due("gone", disturbed(x, sort).gone(sort, 5), best);
     }
 
     private static void apart(BellTrees x, int kk, int[][] walks, int[][] sounds, int[][] others) {
@@ -521,7 +530,7 @@ public final class WalksTest {
         for (int m = Math.min(walks[1].length, walks[2].length) - 1; m >= 0; m--) {
             due = sounds[walks[1][m]][m] != others[walks[2][m]][m] ? m : due;
         }
-        check.due("apart", x.apart(kk, 12), due);
+        check.due("apart", disturbed(x, kk / 10).apart(kk, 12), due);
     }
 
     private static void enough(BellTrees x, int sort, int[][] walks, int[][] sounds, boolean[] there) {
@@ -548,7 +557,7 @@ public final class WalksTest {
                 }
                 best = so ? bits : best;
             }
-            check.due("enough of " + n, x.enough(sort, n), best);
+            check.due("enough of " + n, disturbed(x, sort).enough(sort, n), best);
         }
     }
 

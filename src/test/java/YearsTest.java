@@ -1,3 +1,5 @@
+import java.util.ArrayList;
+import java.util.List;
 import java.util.Random;
 
 /** Promises 18 to 25: walkers drawn, years, walks in deed, judging, images, undoing. */
@@ -20,6 +22,9 @@ public final class YearsTest {
         doneAgain();
         fortyAreKept();
         changesOfEverySort();
+        for (int turn = 0; turn < 100; turn++) {
+            changesByChance();
+        }
         check.end();
     }
 
@@ -75,6 +80,9 @@ public final class YearsTest {
         for (int minute = 0; minute < 5; minute++) {
             x.mend(random.nextInt(24), 4, random.nextInt(10));
         }
+        for (int of = 0; of < 4; of++) {
+            x.mend(of, 5, random.nextInt(10));
+        }
         int sort = random.nextInt(4);
         int seed = random.nextInt();
         int n = random.nextInt(30) + 1;
@@ -84,6 +92,7 @@ public final class YearsTest {
                 sounds[t][m] = x.sound(sort, t, m);
             }
         }
+        x.sound((sort + 1) % 4, 0, 0);
         int z = seed;
         int together = 0;
         int without = 0;
@@ -379,5 +388,48 @@ public final class YearsTest {
             check.due("again", x.redo(), 7 - i);
             check.due("is", x.of(changes[i][0], changes[i][1]), changes[i][2]);
         }
+    }
+
+    /** Against a list that keeps number, what, before and after of each change. */
+    private static void changesByChance() {
+        BellTrees x = someForest(4);
+        List<int[]> done = new ArrayList<>();
+        List<int[]> undone = new ArrayList<>();
+        for (int turn = 0; turn < 120; turn++) {
+            int lot = random.nextInt(10);
+            int[] change = null;
+            if (lot == 0 || lot == 1 && turn > 90) {
+                check.due("undo", x.undo(), done.isEmpty() ? -5 : done.size() - 1);
+                if (!done.isEmpty()) {
+                    change = done.remove(done.size() - 1);
+                    undone.add(change);
+                    check.due("undone", x.of(change[0], change[1]), change[2]);
+                }
+            } else if (lot < 4) {
+                check.due("redo", x.redo(), undone.isEmpty() ? -5 : undone.size() - 1);
+                if (!undone.isEmpty()) {
+                    change = undone.remove(undone.size() - 1);
+                    done.add(change);
+                    check.due("done again", x.of(change[0], change[1]), change[3]);
+                }
+            } else {
+                int what = random.nextInt(8);
+                int number = random.nextInt(what == 4 ? 24 : what > 5 ? 1 : 4);
+                change = new int[] {number, what, x.of(number, what), random.nextInt(what == 3 ? 2 : what == 7 ? 8 : 10)};
+                check.due("mend", x.mend(number, what, change[3]), change[2]);
+                done.add(change);
+                undone.clear();
+                if (done.size() > 40) {
+                    done.remove(0);
+                }
+            }
+            check.due("changes", x.count(3), done.size());
+        }
+        while (!done.isEmpty()) {
+            int[] change = done.remove(done.size() - 1);
+            check.due("undo", x.undo(), done.size());
+            check.due("undone", x.of(change[0], change[1]), change[2]);
+        }
+        check.due("no more", x.undo(), -5);
     }
 }
