@@ -458,11 +458,14 @@ public final class BellTrees {
     }
 
     private boolean plantFrom(Shelf from, int i, int came) {
-        // The first of the threes decides whether i is low enough for the sum not to wrap.
-        if (!from.hasPlaces(i, 3) || !from.hasPlaces(i + 3 * came, 3)) {
+        // Tested ahead of the sum, so that a high i cannot make it wrap.
+        if (!from.hasPlaces(i, 3)) {
             return false;
         }
         int place = i + 3 * came;
+        if (!from.hasPlaces(place, 3)) {
+            return false;
+        }
         int pitch = from.at(place);
         int loud = from.at(place + 1);
         int hangs = from.at(place + 2);

@@ -120,6 +120,12 @@ public final class TreesTest {
         check.due("till full", x.trees(5, 0, 8), 3);
         check.due("full", x.trees(5, 0, 8), 0);
         check.due("eight", x.count(0), 8);
+        BellTrees y = new BellTrees();
+        y.row(0, 0, 24);
+        check.due("as many as just fill the row", y.trees(0, 0, 8), 8);
+        BellTrees z = new BellTrees();
+        z.row(0, 0, 24);
+        check.due("one less, and a part of a three", z.trees(0, 1, 8), 7);
     }
 
     private static void paths() {
