@@ -116,33 +116,25 @@ public final class BellTrees {
 
     public int fits(int shelf, int sm) {
         Shelf book = shelfAt(shelf);
-        int minute = sm % 100;
-        boolean howMany = minute == HOW_MANY;
-        int refusal = bookRefusal(book, sm, howMany ? 0 : minute);
+        boolean howMany = sm % 100 == HOW_MANY;
+        int refusal = bookRefusal(book, sm, howMany);
         if (refusal != 0 || book == null) {
             return refusal;
         }
-        if (!howMany && minute >= book.minutes()) {
-            return BAD;
-        }
         sounds.fill(sm / 100);
         int fitting = walks.countFitting(sounds, book);
-        return howMany ? fitting : walks.firstAt(minute);
+        return howMany ? fitting : walks.firstAt(sm % 100);
     }
 
     public int canBe(int shelf, int sm) {
         Shelf book = shelfAt(shelf);
-        int minute = sm % 100;
-        int refusal = bookRefusal(book, sm, minute);
+        int refusal = bookRefusal(book, sm, false);
         if (refusal != 0 || book == null) {
             return refusal;
         }
-        if (minute >= book.minutes()) {
-            return BAD;
-        }
         sounds.fill(sm / 100);
         walks.countFitting(sounds, book);
-        int bits = walks.possibleAt(minute);
+        int bits = walks.possibleAt(sm % 100);
         return bits == 0 ? NOT : bits;
     }
 
@@ -196,13 +188,8 @@ public final class BellTrees {
         if (refusal != 0) {
             return refusal;
         }
-        Shelf walked = shelfAt(wb / 10);
-        Shelf book = shelfAt(wb % 10);
-        if (walked == null || book == null) {
-            return BAD;
-        }
         sounds.fill(sort);
-        return bellsGone(walked, book);
+        return bellsGone(shelfAt(wb / 10), shelfAt(wb % 10));
     }
 
     public int apart(int kk, int ww) {
@@ -299,19 +286,8 @@ public final class BellTrees {
         if (refusal != 0) {
             return refusal;
         }
-        Shelf walked = shelfAt(wb / 10);
-        Shelf book = shelfAt(wb % 10);
-        if (walked == null || book == null) {
-            return BAD;
-        }
         sounds.fill(sort);
-        int both = Math.min(walked.minutes(), book.minutes());
-        for (int m = 0; m < both; m++) {
-            if (sounds.at(walked.at(m), m) != book.at(m)) {
-                return m;
-            }
-        }
-        return NOT;
+        return firstNotSo(shelfAt(wb / 10), shelfAt(wb % 10), EVERY_BELL);
     }
 
     public int image() {
@@ -475,14 +451,18 @@ public final class BellTrees {
         return forest.plant(pitch, loud, hangs) >= 0;
     }
 
-    private int bookRefusal(Shelf book, int sm, int minute) {
-        if (book == null || sm < 0 || !isSort(sm / 100) || !isMinute(minute)) {
+    private int bookRefusal(Shelf book, int sm, boolean howMany) {
+        int minute = sm % 100;
+        if (book == null || sm < 0 || !isSort(sm / 100) || !howMany && !isMinute(minute)) {
             return BAD;
         }
         if (book.isEmpty()) {
             return NOTHING;
         }
-        return book.isBytes() ? 0 : OTHER_KIND;
+        if (!book.isBytes()) {
+            return OTHER_KIND;
+        }
+        return howMany || minute < book.minutes() ? 0 : BAD;
     }
 
     /** Why not all SHELVES of these bits hold ROWS of bytes; 0: they do. */
@@ -551,6 +531,9 @@ public final class BellTrees {
     }
 
     private int bellsGone(Shelf walked, Shelf book) {
+        if (walked == null || book == null) {
+            return NOT;
+        }
         int both = Math.min(walked.minutes(), book.minutes());
         int gone = 0;
         for (int m = 0; m < both; m++) {
@@ -559,12 +542,21 @@ public final class BellTrees {
             }
         }
         // A bell that is gone is silent in every MINUTE, so the BOOK must have nothing wherever its TREE is walked.
+        return firstNotSo(walked, book, EVERY_BELL & ~gone) == NOT ? gone : NOT;
+    }
+
+    /** The first MINUTE in which a WALK among these bells (bits) alone has not the SOUND of the BOOK. */
+    private int firstNotSo(Shelf walked, Shelf book, int bells) {
+        if (walked == null || book == null) {
+            return NOT;
+        }
+        int both = Math.min(walked.minutes(), book.minutes());
         for (int m = 0; m < both; m++) {
-            if (sounds.among(EVERY_BELL & ~gone, walked.at(m), m) != book.at(m)) {
-                return NOT;
+            if (sounds.among(bells, walked.at(m), m) != book.at(m)) {
+                return m;
             }
         }
-        return gone;
+        return NOT;
     }
 
     /** The first MINUTE in which two WALKS are unlike, the one by the first sounds, the other by those told. */
