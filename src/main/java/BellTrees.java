@@ -75,8 +75,11 @@ public final class BellTrees {
             return BAD;
         }
         int was = forest.get(what, number);
-        forest.set(what, number, v);
-        changes.add(what, number, was, v);
+        // What becomes what it was already is no CHANGE: nothing is kept of it, and what was UNDONE can be DONE AGAIN.
+        if (was != v) {
+            forest.set(what, number, v);
+            changes.add(what, number, was, v);
+        }
         return was;
     }
 

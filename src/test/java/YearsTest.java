@@ -21,6 +21,9 @@ public final class YearsTest {
         undone();
         doneAgain();
         fortyAreKept();
+        theSameIsNoChange();
+        theSameDropsNoChange();
+        theSameAfterYears();
         changesOfEverySort();
         for (int turn = 0; turn < 100; turn++) {
             changesByChance();
@@ -352,7 +355,7 @@ public final class YearsTest {
         BellTrees x = new BellTrees();
         x.tree(0);
         for (int i = 1; i <= 45; i++) {
-            x.mend(0, i % 3, i / 3 % 10);
+            x.mend(0, i % 3, (i + 2) / 3 % 10);
             check.due("kept", x.count(3), Math.min(i, 40));
         }
         for (int left = 39; left >= 0; left--) {
@@ -360,16 +363,72 @@ public final class YearsTest {
         }
         check.due("no more", x.undo(), -5);
         check.due("pitch of the fifth", x.of(0, 0), 1);
-        check.due("loud of the fifth", x.of(0, 1), 1);
-        check.due("hangs of the fifth", x.of(0, 2), 1);
+        check.due("loud of the fifth", x.of(0, 1), 2);
+        check.due("hangs of the fifth", x.of(0, 2), 2);
         for (int left = 39; left >= 0; left--) {
             check.due("again", x.redo(), left);
         }
         check.due("no more", x.redo(), -5);
         check.due("pitch", x.of(0, 0), 5);
-        check.due("loud", x.of(0, 1), 4);
-        check.due("hangs", x.of(0, 2), 4);
+        check.due("loud", x.of(0, 1), 5);
+        check.due("hangs", x.of(0, 2), 5);
         check.due("forty", x.count(3), 40);
+    }
+
+    /** What becomes what it was already is no CHANGE: not to be undone, and none that comes behind one. */
+    private static void theSameIsNoChange() {
+        int[][] slots = {{0, 0}, {0, 1}, {0, 2}, {0, 3}, {23, 4}, {3, 5}, {0, 6}, {0, 7}};
+        for (int[] slot : slots) {
+            BellTrees x = new BellTrees();
+            x.tree(555);
+            int was = x.of(slot[0], slot[1]);
+            check.due("the same", x.mend(slot[0], slot[1], was), was);
+            check.due("no change", x.count(3), 0);
+            check.due("none to be undone", x.undo(), -5);
+            check.due("another", x.mend(slot[0], slot[1], 1 - Math.min(was, 1)), was);
+            check.due("the other again", x.mend(slot[0], slot[1], 1 - Math.min(was, 1)), 1 - Math.min(was, 1));
+            check.due("one change", x.count(3), 1);
+            check.due("undone", x.undo(), 0);
+            check.due("as it was", x.of(slot[0], slot[1]), was);
+            check.due("the same", x.mend(slot[0], slot[1], was), was);
+            check.due("no other came behind", x.redo(), 0);
+            check.due("done again", x.of(slot[0], slot[1]), 1 - Math.min(was, 1));
+        }
+    }
+
+    private static void theSameDropsNoChange() {
+        BellTrees x = new BellTrees();
+        x.tree(0);
+        for (int i = 1; i <= 40; i++) {
+            x.mend(0, 0, i % 10);
+        }
+        x.mend(0, 0, 0);
+        x.mend(0, 1, 0);
+        for (int left = 39; left >= 0; left--) {
+            check.due("undone", x.undo(), left);
+            check.due("pitch", x.of(0, 0), left % 10);
+        }
+        check.due("no more", x.undo(), -5);
+    }
+
+    /** What stands now counts, not what the latest change left. */
+    private static void theSameAfterYears() {
+        BellTrees x = new BellTrees();
+        x.tree(999);
+        x.image();
+        x.mend(0, 0, 8);
+        x.back();
+        check.due("what the image laid back", x.mend(0, 0, 9), 9);
+        check.due("no change", x.count(3), 1);
+        check.due("another again", x.mend(0, 0, 8), 9);
+        check.due("a change", x.count(3), 2);
+        x.years(4, 30);
+        int pitch = x.of(0, 0);
+        check.holds("some of the pitch goes", pitch < 8);
+        check.due("what years left", x.mend(0, 0, pitch), pitch);
+        check.due("no change", x.count(3), 2);
+        check.due("what the change left", x.mend(0, 0, 8), pitch);
+        check.due("a change", x.count(3), 3);
     }
 
     private static void changesOfEverySort() {
@@ -417,8 +476,10 @@ public final class YearsTest {
                 int number = random.nextInt(what == 4 ? 24 : what > 5 ? 1 : 4);
                 change = new int[] {number, what, x.of(number, what), random.nextInt(what == 3 ? 2 : what == 7 ? 8 : 10)};
                 check.due("mend", x.mend(number, what, change[3]), change[2]);
-                done.add(change);
-                undone.clear();
+                if (change[2] != change[3]) {
+                    done.add(change);
+                    undone.clear();
+                }
                 if (done.size() > 40) {
                     done.remove(0);
                 }
