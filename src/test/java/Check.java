@@ -1,5 +1,15 @@
 /** Counts the answers of one test that are not due, and tells them. */
 final class Check {
+    /** How an object comes to be as a test wants it: the same each time. */
+    interface Made {
+        BellTrees made();
+    }
+
+    /** One call on an object. */
+    interface Call {
+        long on(BellTrees x);
+    }
+
     private int right;
     private int wrong;
 
@@ -16,6 +26,13 @@ final class Check {
 
     void holds(String what, boolean so) {
         due(what, so ? 1 : 0, 1);
+    }
+
+    /** The call has the answer that is due, and the object stands behind it as one that never had the call. */
+    void changesNothing(String call, Made made, Call asked, long want) {
+        BellTrees x = made.made();
+        due(call, asked.on(x), want);
+        holds(call + " changes nothing", State.of(x).equals(State.of(made.made())));
     }
 
     void end() {

@@ -358,6 +358,7 @@ public final class LawTest {
     private static void randomFaults() {
         String signs = "ldwpsk0123456789((()))!!--+*/%<=>&|?; x";
         int right = 0;
+        int texts = 0;
         BellTrees x = null;
         for (int turn = 0; turn < 20000; turn++) {
             StringBuilder text = new StringBuilder(level(0, 0));
@@ -379,9 +380,10 @@ public final class LawTest {
             if (text.length() > 120) {
                 continue;
             }
-            if (turn % 4 == 0 || x == null) {
+            if (texts % 4 == 0 || x == null) {
                 x = new BellTrees();
             }
+            texts++;
             int fault = faultOf(text.toString());
             right += fault < 0 ? 1 : 0;
             check.due("law of " + text, Check.law(x, text.toString()), fault < 0 ? 1 : -100 - fault);

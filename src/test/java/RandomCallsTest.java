@@ -10,14 +10,14 @@ public final class RandomCallsTest {
     /** Two objects get the same calls, but the other one none of those that are refused: their answers must stay alike. */
     public static void main(String[] args) {
         int refused = 0;
-        for (int seed = 0; seed < 3000; seed++) {
+        for (int seed = 0; seed < 4000; seed++) {
             BellTrees x = new BellTrees();
             BellTrees y = new BellTrees();
             if (seed % 2 == 0) {
                 settle(x, new Random(seed));
                 settle(y, new Random(seed));
             }
-            for (int call = 0; call < 300; call++) {
+            for (int call = 0; call < 230; call++) {
                 long choice = (1000L * seed + call) * 0x9E3779B97F4A7C15L;
                 long answer = someCall(x, new Random(choice));
                 if (isRefusal(answer)) {
