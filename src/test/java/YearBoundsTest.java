@@ -20,6 +20,7 @@ public final class YearBoundsTest {
         yearsAtTheEnds();
         yearsLeaveTheRest();
         walksInDeedAtTheirBounds();
+        theLastCall();
         judgedAtItsBounds();
         imagesOfNoneAndOfAll();
         imagesAndTreesThatCame();
@@ -258,6 +259,17 @@ public final class YearBoundsTest {
         check.due("none of it is heard", y.of(0, 11), 0);
         check.due("none of it is heard", y.of(1, 11), 0);
         check.due("no walk", y.of(0, 12), 0);
+    }
+
+    /** An object is used for 512 calls; the last of them is answered as any other. */
+    private static void theLastCall() {
+        BellTrees x = new BellTrees();
+        x.tree(195);
+        x.row(0, 0, 24);
+        for (int call = 3; call <= 511; call++) {
+            check.due("call " + call, x.walk(0, 0), 24);
+        }
+        check.due("the 512th", x.of(0, 11), 509 * 24);
     }
 
     private static void judgedAtItsBounds() {
